@@ -27,8 +27,9 @@ public final class MovingMesh {
     private static final int DELAYED = 2;
     private static final int UNHARMED = 3;
 
-    // A piece of a message is known by message * PIECES + its place; the place after the
-    // greatest one of a byte is that of the receipt, which goes back from goal to source.
+    // A piece of a message is known by message * PIECES + its place. Places 0 .. 7 are those
+    // of the bytes, place 8 is that of the receipt, which goes back from goal to source. The
+    // first number that no such piece has stands for what a station tells about ways.
     private static final int PIECES = 9;
     private static final int RECEIPT = 8;
     private static final int WAYS = 144;
