@@ -15,8 +15,11 @@ public final class InsideTest {
     public static void main(String[] args) throws ReflectiveOperationException {
         fates();
         sixteenOrders();
+        seventeenthOrder();
         pieces();
+        sixteenLatePieces();
         forgottenWays();
+        refusedForgetting();
         forgottenPieces();
         nothingIsLeft();
         check.end();
@@ -90,6 +93,26 @@ public final class InsideTest {
         check.due("there is room again", call(x, "fateOfNextPiece", 5), DELAYED);
     }
 
+    private static void seventeenthOrder() throws ReflectiveOperationException {
+        for (int orders = 0; orders <= 18; orders++) {
+            MovingMesh x = new MovingMesh();
+            for (int n = 0; n < orders; n++) {
+                x.disturb(n % 8, 20 - n, n % 3);
+            }
+            check.due("remembered of " + orders, ordersLeft(x), Math.min(orders, 16));
+            for (int no : Edges.NO_STATIONS) {
+                x.disturb(no, 0, 0);
+            }
+            for (int no : Edges.NO_PIECES) {
+                x.disturb(0, no, 0);
+            }
+            for (int no : Edges.NO_KINDS) {
+                x.disturb(0, 0, no);
+            }
+            check.due("none that was refused", ordersLeft(x), Math.min(orders, 16));
+        }
+    }
+
     private static void pieces() throws ReflectiveOperationException {
         for (int kind = LOST; kind <= DELAYED; kind++) {
             MovingMesh x = new MovingMesh();
@@ -109,6 +132,34 @@ public final class InsideTest {
             call(x, "send", 0, 1, 0, 0);
             check.due("the next one, kind " + kind, inside(x, "piecesAtGoal")[0], 1);
         }
+    }
+
+    private static void sixteenLatePieces() throws ReflectiveOperationException {
+        MovingMesh x = new MovingMesh();
+        for (int m = 0; m < 16; m++) {
+            x.write(m);
+            x.post(0, 1);
+            x.disturb(0, m, DELAYED);
+        }
+        for (int m = 0; m < 16; m++) {
+            call(x, "send", 0, 1, m * 9, 0);
+        }
+        check.due("none came at once", sum(inside(x, "piecesAtGoal")), 0);
+        for (int round = 0; round < 8; round++) {
+            call(x, "bringLatePieces");
+        }
+        check.due("all came late", sum(inside(x, "piecesAtGoal")), 16);
+    }
+
+    private static void refusedForgetting() throws ReflectiveOperationException {
+        MovingMesh x = new MovingMesh();
+        x.link(0, 1, true);
+        x.settle();
+        for (int no : Edges.NO_STATIONS) {
+            x.forget(no);
+        }
+        check.due("0 knows", inside(x, "way")[0 * 8 + 1], 1);
+        check.due("1 knows", inside(x, "way")[1 * 8 + 0], 0);
     }
 
     private static void forgottenWays() throws ReflectiveOperationException {
