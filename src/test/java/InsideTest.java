@@ -22,6 +22,8 @@ public final class InsideTest {
         refusedForgetting();
         forgottenPieces();
         nothingIsLeft();
+        lostReceipts();
+        orderOfArrival();
         check.end();
     }
 
@@ -29,6 +31,12 @@ public final class InsideTest {
         Field f = MovingMesh.class.getDeclaredField(name);
         f.setAccessible(true);
         return (int[]) f.get(x);
+    }
+
+    private static boolean[] marks(MovingMesh x, String name) throws ReflectiveOperationException {
+        Field f = MovingMesh.class.getDeclaredField(name);
+        f.setAccessible(true);
+        return (boolean[]) f.get(x);
     }
 
     private static int call(MovingMesh x, String name, int... with) throws ReflectiveOperationException {
@@ -218,5 +226,41 @@ public final class InsideTest {
                 }
             }
         }
+    }
+
+    /** The ways are known, so the receipts are among the pieces that get lost. */
+    private static void lostReceipts() throws ReflectiveOperationException {
+        for (int a = 0; a < 8; a++) {
+            for (int first = 0; first <= 5; first++) {
+                MovingMesh x = new MovingMesh();
+                for (int b = 0; b < 7; b++) {
+                    x.link(b, b + 1, true);
+                }
+                x.settle();
+                x.write(1);
+                x.post(0, 7);
+                for (int i = 0; i < 16; i++) {
+                    x.disturb(a, first + i, LOST);
+                }
+                check.due("settle", x.settle(), 1);
+                check.due("the source knows, " + a + " " + first, marks(x, "hasReceipt")[0], true);
+            }
+        }
+    }
+
+    /** All pieces of the later one come first; within one settling no answer can tell. */
+    private static void orderOfArrival() throws ReflectiveOperationException {
+        MovingMesh x = new MovingMesh();
+        x.post(0, 1);
+        x.post(0, 1);
+        x.post(2, 1);
+        call(x, "takeIn", 1, 1, 0);
+        call(x, "takeIn", 1, 2, 0);
+        call(x, "letArrive");
+        check.due("the later one still waits", x.arrived(0, 1), 0);
+        check.due("that of another source does not", x.arrived(2, 1), 1);
+        call(x, "takeIn", 1, 0, 0);
+        call(x, "letArrive");
+        check.due("both arrive", x.arrived(0, 1), 2);
     }
 }

@@ -271,8 +271,11 @@ public final class PromiseEdgeTest {
     }
 
     private static void p4AnEmptyDraft() {
-        Watched x = mesh("4: empty").longLine();
+        Watched x = mesh("4: empty");
         check.due("4: an empty draft", x.post(0, 7), 1);
+        check.due("4: it waits as others do", x.settle(), 0);
+        check.due("4: it waits as others do", x.waiting(0, 7), 1);
+        x.longLine();
         x.send(0, 7, 5);
         check.due("4: empty again", x.post(0, 7), 3);
         check.due("4: all arrive", x.settle(), 3);
@@ -730,18 +733,17 @@ public final class PromiseEdgeTest {
             Watched x = mesh("15: take " + taken).longLine();
             for (int n = 0; n < 16; n++) {
                 // The one to be taken is the only one from 7 to 6.
-                x.send(n == taken ? 7 : 2, n == taken ? 6 : 3, n, n + 100);
+                x.send(n == taken ? 7 : 2, n == taken ? 6 : 3, n, 1, 2, 3, 4, 5, 6, n + 100);
             }
             check.due("15: settle", x.settle(), 16);
-            check.due("15: take", x.take(7, 6), 2);
+            check.due("15: take", x.take(7, 6), 8);
             check.due("15: take again", x.take(7, 6), BAD);
             for (int i = 0; i < 15; i++) {
-                check.due("15: the others", x.byteAt(2 + 8 * 3, i, 1), 100 + (i < taken ? i : i + 1));
+                check.due("15: the others", x.byteAt(2 + 8 * 3, i, 7), 100 + (i < taken ? i : i + 1));
             }
             check.due("15: post", x.send(7, 6, 77), 16);
             check.due("15: settle", x.settle(), 1);
             check.due("15: the new one", x.byteAt(7 + 8 * 6, 0, 0), 77);
-            x.seeAll();
         }
     }
 

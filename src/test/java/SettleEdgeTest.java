@@ -51,7 +51,11 @@ public final class SettleEdgeTest {
     private static void nothingConnected() {
         Watched x = mesh("nothing connected");
         for (int n = 0; n < 16; n++) {
-            x.send(n % 8, (n + 1 + n / 8) % 8, n);
+            // One without bytes waits too.
+            if (n % 3 != 0) {
+                x.write(n);
+            }
+            x.post(n % 8, (n + 1 + n / 8) % 8);
         }
         check.due("no links", x.settle(), 0);
         x.line(0, 3).line(1, 4).line(2, 5);
