@@ -22,6 +22,7 @@ public final class PromiseEdgeTest {
         p4FullWhenThereAreSixteen();
         p4FullChangesNothing();
         p4BadIsTestedBeforeFull();
+        p4WhereItAnswersBadNothingIsPosted();
         p4AnEmptyDraft();
         p4AFullDraft();
         p5FalseWhenNoStation();
@@ -37,12 +38,14 @@ public final class PromiseEdgeTest {
         p8FalseWhenNoKind();
         p8TheLeastAndTheGreatest();
         p8AtMostSixteenOrders();
+        p8FalseHasNoOtherGround();
         p9FalseWhenNoStation();
         p9ForgettingNothingAndTwice();
         p11BadWhenNoStation();
         p11NoneAndSixteen();
         p12BadWhenNoStation();
         p12NoneAndSixteen();
+        p12BadHasNoOtherGround();
         p13BadWhenThereIsNone();
         p13BadWhenNoStation();
         p13TheShortestAndTheLongest();
@@ -270,6 +273,33 @@ public final class PromiseEdgeTest {
         x.seeAll();
     }
 
+    /** The draft is emptied by posting it, so it stays where nothing is posted. */
+    private static void p4WhereItAnswersBadNothingIsPosted() {
+        for (int length = 0; length <= 8; length++) {
+            Watched x = length % 2 == 0 ? mesh("4: BAD") : full("4: BAD when full");
+            for (int k = 0; k < length; k++) {
+                x.write(50 + k);
+            }
+            int before = x.messages();
+            for (int a = 0; a < 8; a++) {
+                check.due("4: to itself", x.post(a, a), BAD);
+            }
+            check.due("4: no source", x.post(8, 0), BAD);
+            check.due("4: no goal", x.post(0, -1), BAD);
+            check.due("4: nothing is posted", x.messages(), before);
+            check.due("4: the draft stays", x.draft(), length);
+            x.link(0, 1, true);
+            x.settle();
+            x.take(0, 1);
+            x.post(1, 0);
+            x.settle();
+            check.due("4: all its bytes are posted later", x.length(1, 0, 0), length);
+            for (int k = 0; k < length; k++) {
+                check.due("4: byte " + k, x.byteAt(1, 0, k), 50 + k);
+            }
+        }
+    }
+
     private static void p4AnEmptyDraft() {
         Watched x = mesh("4: empty");
         check.due("4: an empty draft", x.post(0, 7), 1);
@@ -476,6 +506,22 @@ public final class PromiseEdgeTest {
         }
     }
 
+    /** All right orders there are, most of them when sixteen are remembered already. */
+    private static void p8FalseHasNoOtherGround() {
+        Watched x = mesh("8: all orders");
+        for (int k = 0; k <= 20; k++) {
+            for (int a = 0; a < 8; a++) {
+                for (int kind = 0; kind < 3; kind++) {
+                    check.due("8: disturb(" + a + ", " + k + ", " + kind + ")", x.disturb(a, k, kind), true);
+                }
+            }
+        }
+        x.link(0, 7, true);
+        x.send(0, 7, 5);
+        check.due("8: settle after all orders", x.settle(), 1);
+        check.due("8: byte after all orders", x.byteAt(56, 0, 0), 5);
+    }
+
     private static void p9FalseWhenNoStation() {
         for (int no : Edges.NO_STATIONS) {
             Watched x = mesh("9: no station " + no).line(0, 1, 7);
@@ -555,6 +601,23 @@ public final class PromiseEdgeTest {
         for (int n = 15; n >= 0; n--) {
             x.take(0, 1);
             check.due("12: one less", x.arrived(0, 1), n);
+        }
+    }
+
+    /** Not that the stations are the same, nor that they aren't connected, nor that none is there. */
+    private static void p12BadHasNoOtherGround() {
+        Watched x = mesh("12: any two").line(0, 3, 7);
+        x.send(0, 7, 1);
+        x.send(1, 2, 2);
+        x.settle();
+        x.link(3, 7, false);
+        for (int a = 0; a < 8; a++) {
+            for (int b = 0; b < 8; b++) {
+                boolean there = a == 0 && b == 7;
+                boolean waits = a == 1 && b == 2;
+                check.due("12: arrived(" + a + ", " + b + ")", x.arrived(a, b), there ? 1 : 0);
+                check.due("11: waiting(" + a + ", " + b + ")", x.waiting(a, b), waits ? 1 : 0);
+            }
         }
     }
 
